@@ -235,7 +235,6 @@ public final class NameHashBuilder {
     private void forgetDefinitions() {
         for (int name = 0; name < nameCount; name++) {
             newOwners[name] = NO_OWNER;
-            exprStarts[name] = 0;
             nameUses[name] = 0;
         }
         ownedNames = 0;

@@ -21,6 +21,7 @@ public final class EditTest {
         clearUnit();
         refusals();
         fullUnit();
+        fullObject();
         emptyUnit();
         outsideQueries();
         CHECK.end();
@@ -179,6 +180,25 @@ public final class EditTest {
         dueMiddle("deleteToken in a full unit", x, "= a + 7 ; e 6");
         CHECK.due("insertToken below T", x.insertToken(1, 0, 7, 0), true);
         dueMiddle("insertToken below T", x, ") = a + 7 ; e 6");
+    }
+
+    /** All units full at the greatest sizes: an edit reaches neither the next unit nor past the last. */
+    private static void fullObject() {
+        NameHashBuilder x = new NameHashBuilder(8, 32, 16);
+        for (int unit = 0; unit < 8; unit++) {
+            CHECK.fill(x, unit, (unit + " p ").repeat(16));
+        }
+        for (int unit = 0; unit < 8; unit++) {
+            CHECK.due("append to full unit " + unit, x.append(unit, 1, 1), false);
+            CHECK.due("insertToken in full unit " + unit, x.insertToken(unit, 32, 1, 1), false);
+            CHECK.due("deleteToken in full unit " + unit, x.deleteToken(unit, 0), true);
+            CHECK.dueTokens("deleteToken", x, unit, "p " + (unit + " p ").repeat(15));
+            CHECK.due("insertToken in unit " + unit, x.insertToken(unit, 0, 9, 3), true);
+            CHECK.dueTokens("insertToken", x, unit, "; p " + (unit + " p ").repeat(15));
+        }
+        for (int unit = 0; unit < 8; unit++) {
+            CHECK.dueTokens("all edited", x, unit, "; p " + (unit + " p ").repeat(15));
+        }
     }
 
     private static void emptyUnit() {

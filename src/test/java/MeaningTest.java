@@ -150,6 +150,11 @@ public final class MeaningTest {
                 CYCLE, BROKEN, BROKEN, BROKEN, OK);
         dueStatuses("ok and broken", built("a = e + b ; b = c ; c = h ; e = 1 ;"),
                 BROKEN, BROKEN, UNDEF, NODEF, OK);
+        NameHashBuilder x = built("a = b ; b = h ; c = c ; d = c ;");
+        dueStatuses("to be mended", x, BROKEN, UNDEF, CYCLE, BROKEN);
+        CHECK.fill(x, 0, "a = b ; b = 3 ; c = 4 ; d = c ;");
+        CHECK.due("mended: build()", x.build(), 4);
+        dueStatuses("mended", x, OK, OK, OK, OK);
     }
 
     /** As many names as there can be, each using the next or the one before. */
