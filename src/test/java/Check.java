@@ -1,11 +1,31 @@
 /** What the tests share: counting wrong answers, and units written as text. */
 final class Check {
-    private int wrong = 0;
+    static final int MIN = Integer.MIN_VALUE;
+    static final int MAX = Integer.MAX_VALUE;
+
+    private String sentence = "";
+    private long answers = 0;
+    private long wrong = 0;
+
+    /** Runs the test of one sentence of the document; a wrong answer is told with the sentence. */
+    void sentence(String text, Runnable test) {
+        long before = answers;
+        sentence = "[" + text + "] ";
+        try {
+            test.run();
+        } catch (RuntimeException | StackOverflowError thrown) {
+            wrong++;
+            System.out.println(sentence + "threw " + thrown);
+        }
+        due("the test looked at an answer", answers > before, true);
+        sentence = "";
+    }
 
     void due(String call, long got, long want) {
+        answers++;
         if (got != want) {
             wrong++;
-            System.out.println(call + " answered " + got + ", due is " + want);
+            System.out.println(sentence + call + " answered " + got + ", due is " + want);
         }
     }
 
@@ -36,13 +56,28 @@ final class Check {
         String[] words = words(text);
         due(when + ": getLength(" + unit + ")", x.getLength(unit), words.length);
         for (int i = 0; i < words.length; i++) {
-            String at = "(" + unit + ", " + i + ")";
-            due(when + ": getTokenKind" + at, x.getTokenKind(unit, i), kindOf(words[i]));
-            due(when + ": getTokenValue" + at, x.getTokenValue(unit, i), valueOf(words[i]));
+            dueToken(when, x, unit, i, kindOf(words[i]), valueOf(words[i]));
         }
-        String past = "(" + unit + ", " + words.length + ")";
-        due(when + ": getTokenKind" + past, x.getTokenKind(unit, words.length), 0);
-        due(when + ": getTokenValue" + past, x.getTokenValue(unit, words.length), 0);
+        dueToken(when, x, unit, words.length, 0, 0);
+    }
+
+    void dueToken(String when, NameHashBuilder x, int unit, int index, int kind, int value) {
+        String at = "(" + unit + ", " + index + ")";
+        due(when + ": getTokenKind" + at, x.getTokenKind(unit, index), kind);
+        due(when + ": getTokenValue" + at, x.getTokenValue(unit, index), value);
+    }
+
+    void dueUnit(String when, NameHashBuilder x, int unit, int error, int defs) {
+        due(when + ": getUnitError(" + unit + ")", x.getUnitError(unit), error);
+        due(when + ": getDefCount(" + unit + ")", x.getDefCount(unit), defs);
+    }
+
+    /** The unit uses the names of these letters and no other one. */
+    void dueUses(String when, NameHashBuilder x, int unit, String letters) {
+        for (int name = 0; name < 16; name++) {
+            boolean used = letters.indexOf('a' + name) >= 0;
+            due(when + ": usesName(" + unit + ", " + name + ")", x.usesName(unit, name), used);
+        }
     }
 
     void dueName(String when, NameHashBuilder x, int name, int owner, int status, int value) {
@@ -51,19 +86,88 @@ final class Check {
         due(when + ": getValue(" + name + ")", x.getValue(name), value);
     }
 
-    /** Every build result of a U x N object in one text, to see whether any of them moved. */
-    static String results(NameHashBuilder x, int units, int names) {
+    /** The statuses of names 0, 1 and so on; a name that isn't ok has value 0. */
+    void dueStatuses(String when, NameHashBuilder x, int... statuses) {
+        for (int name = 0; name < statuses.length; name++) {
+            due(when + ": getStatus(" + name + ")", x.getStatus(name), statuses[name]);
+            if (statuses[name] != NameHashBuilder.ST_OK) {
+                due(when + ": getValue(" + name + ")", x.getValue(name), 0);
+            }
+        }
+    }
+
+    /** The names of these letters, and no other one, are changed by the last build. */
+    void dueChanged(String when, NameHashBuilder x, String letters) {
+        for (int name = 0; name < 16; name++) {
+            boolean changed = letters.indexOf('a' + name) >= 0;
+            due(when + ": isChanged(" + name + ")", x.isChanged(name), changed);
+        }
+    }
+
+    void dueBuild(String when, NameHashBuilder x, String changedLetters) {
+        due(when + ": build()", x.build(), changedLetters.length());
+        dueChanged(when, x, changedLetters);
+    }
+
+    /** Four units of 32 tokens and eight names, a to h, with these units filled. */
+    NameHashBuilder filled(String... units) {
+        NameHashBuilder x = new NameHashBuilder(4, 32, 8);
+        for (int unit = 0; unit < units.length; unit++) {
+            fill(x, unit, units[unit]);
+        }
+        return x;
+    }
+
+    NameHashBuilder built(String... units) {
+        NameHashBuilder x = filled(units);
+        x.build();
+        return x;
+    }
+
+    /** Every build result in one text, to see whether any of them moved. */
+    static String results(NameHashBuilder x) {
+        return meaning(x) + " changed " + changes(x);
+    }
+
+    /** The build results but for the changed flags. Sizes don't matter: what is outside stays the same. */
+    static String meaning(NameHashBuilder x) {
         StringBuilder all = new StringBuilder();
-        for (int unit = 0; unit < units; unit++) {
+        for (int unit = -1; unit <= 8; unit++) {
             all.append(x.getUnitError(unit)).append('/').append(x.getDefCount(unit)).append(':');
-            for (int name = 0; name < names; name++) {
+            for (int name = -1; name <= 16; name++) {
                 all.append(x.usesName(unit, name) ? 'u' : '.');
             }
             all.append(' ');
         }
-        for (int name = 0; name < names; name++) {
+        for (int name = -1; name <= 16; name++) {
             all.append(x.getOwner(name)).append(',').append(x.getStatus(name)).append(',');
-            all.append(x.getValue(name)).append(x.isChanged(name) ? "! " : " ");
+            all.append(x.getValue(name)).append(' ');
+        }
+        return all.toString();
+    }
+
+    /** Every token and length in one text. */
+    static String tokens(NameHashBuilder x) {
+        StringBuilder all = new StringBuilder();
+        for (int unit = -1; unit <= 8; unit++) {
+            all.append(x.getLength(unit)).append(':');
+            for (int index = -1; index <= 32; index++) {
+                all.append(x.getTokenKind(unit, index)).append('_');
+                all.append(x.getTokenValue(unit, index)).append(' ');
+            }
+        }
+        return all.toString();
+    }
+
+    /** All that the object tells. */
+    static String state(NameHashBuilder x) {
+        return tokens(x) + results(x);
+    }
+
+    private static String changes(NameHashBuilder x) {
+        StringBuilder all = new StringBuilder();
+        for (int name = -1; name <= 16; name++) {
+            all.append(x.isChanged(name) ? '!' : '.');
         }
         return all.toString();
     }
