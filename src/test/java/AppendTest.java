@@ -26,9 +26,8 @@ public final class AppendTest {
     }
 
     private static void kindRange() {
-        String[] words = {"4", "e", "+", "-", "*", "(", ")", "=", ";"};
         for (int kind = 1; kind <= 9; kind++) {
-            new Bench(CHECK).append(1, kind, 4).makes("b = a + 7 ; " + words[kind - 1]);
+            new Bench(CHECK).append(1, kind, 4).makes("b = a + 7 ; " + Bench.WORDS[kind - 1]);
         }
         Bench bench = new Bench(CHECK);
         for (int kind : Bench.OUTSIDE_KINDS) {
@@ -94,12 +93,11 @@ public final class AppendTest {
 
     /** Where a literal stood before the unit was cleared. */
     private static void storedAsZero() {
-        String signs = "+-*()=;";
         for (int kind = 3; kind <= 9; kind++) {
             for (int value : new int[] {Check.MIN, -1, 0, 1, 4, Check.MAX}) {
                 Bench bench = new Bench(CHECK, "77");
                 bench.clearUnit(1).makes("");
-                bench.append(1, kind, value).makes(signs.substring(kind - 3, kind - 2));
+                bench.append(1, kind, value).makes(Bench.WORDS[kind - 1]);
             }
         }
     }

@@ -7,6 +7,8 @@ final class Bench {
     static final int U = 3;
     static final int T = 8;
     static final int N = 5;
+    /** The words of the kinds 1 to 9, each with value 4 where the kind has a value. */
+    static final String[] WORDS = {"4", "e", "+", "-", "*", "(", ")", "=", ";"};
     static final int[] OUTSIDE_UNITS = {Check.MIN, -8, -1, U, U + 1, 7, 8, 32, Check.MAX};
     static final int[] OUTSIDE_KINDS = {Check.MIN, -9, -1, 0, 10, 11, Check.MAX};
     static final int[] OUTSIDE_NAMES = {Check.MIN, -16, -1, N, N + 1, 15, 16, 32, Check.MAX};

@@ -55,9 +55,8 @@ public final class InsertTokenTest {
     }
 
     private static void kindRange() {
-        String[] words = {"4", "e", "+", "-", "*", "(", ")", "=", ";"};
         for (int kind = 1; kind <= 9; kind++) {
-            new Bench(CHECK).insertToken(1, 2, kind, 4).makes("b = " + words[kind - 1] + " a + 7 ;");
+            new Bench(CHECK).insertToken(1, 2, kind, 4).makes("b = " + Bench.WORDS[kind - 1] + " a + 7 ;");
         }
         Bench bench = new Bench(CHECK);
         for (int kind : Bench.OUTSIDE_KINDS) {
@@ -124,11 +123,10 @@ public final class InsertTokenTest {
 
     /** Where a literal stood before the unit was cleared. */
     private static void formedAsInAppend() {
-        String signs = "+-*()=;";
         for (int value : new int[] {Check.MIN, -1, 0, 1, 4, Check.MAX}) {
             new Bench(CHECK).insertToken(1, 4, 1, value).makes("b = a + " + value + " 7 ;");
             for (int kind = 3; kind <= 9; kind++) {
-                String sign = signs.substring(kind - 3, kind - 2);
+                String sign = Bench.WORDS[kind - 1];
                 new Bench(CHECK).insertToken(1, 4, kind, value).makes("b = a + " + sign + " 7 ;");
                 Bench bench = new Bench(CHECK, "77");
                 bench.clearUnit(1).makes("");
@@ -146,21 +144,30 @@ public final class InsertTokenTest {
         bench.dueNextBuild();
     }
 
-    /** All units full: an edit reaches neither the next unit nor past the last one. */
+    /** All units full: an edit reaches neither the unit before nor the next nor past the last one. */
     private static void greatestSizes() {
         NameHashBuilder x = new NameHashBuilder(8, 32, 16);
+        String[] texts = new String[8];
         for (int unit = 0; unit < 8; unit++) {
-            CHECK.fill(x, unit, (unit + " p ").repeat(16));
+            texts[unit] = (unit + " p ").repeat(16);
+            CHECK.fill(x, unit, texts[unit]);
         }
         for (int unit = 0; unit < 8; unit++) {
             CHECK.due("append to full unit " + unit, x.append(unit, 1, 1), false);
             CHECK.due("insertToken in full unit " + unit, x.insertToken(unit, 32, 1, 1), false);
+            dueTexts("refused edits of unit " + unit, x, texts);
             CHECK.due("deleteToken in full unit " + unit, x.deleteToken(unit, 0), true);
-            CHECK.dueTokens("deleteToken", x, unit, "p " + (unit + " p ").repeat(15));
+            texts[unit] = "p " + (unit + " p ").repeat(15);
+            dueTexts("deleteToken in unit " + unit, x, texts);
             CHECK.due("insertToken in unit " + unit, x.insertToken(unit, 0, 9, 3), true);
+            texts[unit] = "; " + texts[unit];
+            dueTexts("insertToken in unit " + unit, x, texts);
         }
-        for (int unit = 0; unit < 8; unit++) {
-            CHECK.dueTokens("all edited", x, unit, "; p " + (unit + " p ").repeat(15));
+    }
+
+    private static void dueTexts(String when, NameHashBuilder x, String[] texts) {
+        for (int unit = 0; unit < texts.length; unit++) {
+            CHECK.dueTokens(when, x, unit, texts[unit]);
         }
     }
 }

@@ -464,6 +464,8 @@ public final class MeaningTest {
     private static void greatestExprs() {
         dueValue("( ".repeat(14) + "a " + ") ".repeat(14), 5);
         dueValue("- ( ".repeat(9) + "a " + ") ".repeat(9), -5);
+        dueValue("( ".repeat(11) + "1 - ( a - 2 ) " + ") ".repeat(11), -2);
+        dueValue("1 - ( ".repeat(5) + "a - 2 " + ") ".repeat(5), -2);
         dueValue("- ".repeat(28) + "a", 5);
         dueValue("- ".repeat(27) + "a", -5);
         dueValue("1 - ".repeat(14) + "1", -13);

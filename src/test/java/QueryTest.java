@@ -381,20 +381,24 @@ public final class QueryTest {
         CHECK.dueBuild("third", x, "c");
     }
 
-    /** Before and after builds; the next build must find nothing else than without the queries. */
+    /** The twin is never asked before the end, so that a query that changes something shows. */
     private static void queriesChangeNothing() {
-        NameHashBuilder x = CHECK.filled("a = b ; c = c ;", "b = 2 ;", "d = h ;", "e = (");
-        askAll(x);
-        CHECK.dueBuild("first", x, "abcd");
-        String state = Check.state(x);
-        askAll(x);
-        CHECK.same("after queries", Check.state(x), state);
-        CHECK.dueBuild("second", x, "");
-        CHECK.fill(x, 1, "b = 3 ;");
-        askAll(x);
-        CHECK.dueBuild("third", x, "ab");
-        CHECK.dueTokens("third", x, 0, "a = b ; c = c ;");
-        CHECK.dueTokens("third", x, 1, "b = 3 ;");
+        String[] units = {"a = b ; c = c ;", "b = 2 ;", "d = h ;", "e = ("};
+        for (int builds = 0; builds <= 2; builds++) {
+            NameHashBuilder x = CHECK.filled(units);
+            NameHashBuilder twin = CHECK.filled(units);
+            askAll(x);
+            for (int build = 0; build < builds; build++) {
+                CHECK.due("build()", x.build(), twin.build());
+                askAll(x);
+            }
+            CHECK.same("after " + builds + " builds", Check.state(x), Check.state(twin));
+            CHECK.fill(x, 1, "b = 3 ;");
+            CHECK.fill(twin, 1, "b = 3 ;");
+            askAll(x);
+            CHECK.due("build() after an edit", x.build(), twin.build());
+            CHECK.same("after " + builds + " builds and an edit", Check.state(x), Check.state(twin));
+        }
     }
 
     private static void askAll(NameHashBuilder x) {

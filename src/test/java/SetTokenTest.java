@@ -44,9 +44,8 @@ public final class SetTokenTest {
     }
 
     private static void kindRange() {
-        String[] words = {"4", "e", "+", "-", "*", "(", ")", "=", ";"};
         for (int kind = 1; kind <= 9; kind++) {
-            new Bench(CHECK).setToken(1, 2, kind, 4).makes("b = " + words[kind - 1] + " + 7 ;");
+            new Bench(CHECK).setToken(1, 2, kind, 4).makes("b = " + Bench.WORDS[kind - 1] + " + 7 ;");
         }
         Bench bench = new Bench(CHECK);
         for (int kind : Bench.OUTSIDE_KINDS) {
@@ -92,10 +91,9 @@ public final class SetTokenTest {
     }
 
     private static void storedAsZero() {
-        String signs = "+-*()=;";
         for (int kind = 3; kind <= 9; kind++) {
             for (int value : new int[] {Check.MIN, -1, 0, 1, 4, Check.MAX}) {
-                String sign = signs.substring(kind - 3, kind - 2);
+                String sign = Bench.WORDS[kind - 1];
                 new Bench(CHECK).setToken(1, 4, kind, value).makes("b = a + " + sign + " ;");
             }
         }

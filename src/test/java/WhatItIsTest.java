@@ -17,7 +17,8 @@ public final class WhatItIsTest {
         CHECK.sentence("What it is: edits never change the build results", WhatItIsTest::editsChangeNoResult);
         CHECK.sentence("What it is: edits never change the build results, before the first build",
                 WhatItIsTest::editsChangeNoStartResult);
-        CHECK.sentence("What it is: the build results stay fixed until the next build", WhatItIsTest::untilTheNextBuild);
+        CHECK.sentence("What it is: the build results stay fixed until the next build",
+                WhatItIsTest::untilTheNextBuild);
         CHECK.sentence("What it is: each unit holds at most T tokens", WhatItIsTest::atMostT);
         CHECK.sentence("What it is: a literal's value is any int", WhatItIsTest::anyLiteral);
         CHECK.sentence("What it is: a name's value is the name number, 0..N-1", WhatItIsTest::nameNumbers);
