@@ -14,7 +14,7 @@ final class Bench {
     static final int[] OUTSIDE_NAMES = {Check.MIN, -16, -1, N, N + 1, 15, 16, 32, Check.MAX};
 
     private final Check check;
-    private final NameHashBuilder x = new NameHashBuilder(U, T, N);
+    private final NameHashBuilder x;
     private final String[] texts = {"a = 1 ;", "b = a + 7 ;", "c = d ;"};
     private final String results;
     private String call;
@@ -24,6 +24,7 @@ final class Bench {
     /** Unit 1 holds [b = a + 7 ;], six of eight tokens. */
     Bench(Check check) {
         this.check = check;
+        x = check.object(U, T, N);
         for (int unit = 0; unit < U; unit++) {
             check.fill(x, unit, texts[unit]);
         }

@@ -10,11 +10,14 @@ public final class ChangeTest {
         CHECK.sentence("7: it replaces all build results", ChangeTest::replacesAll);
         CHECK.sentence("7: the results do not depend on the order of earlier edits", ChangeTest::orderOfEdits);
         CHECK.sentence("7: the results do not depend on earlier builds", ChangeTest::earlierBuilds);
+        CHECK.sentence("7: whatever was edited and built, with empty units all is as in a new object",
+                ChangeTest::emptiedAsNew);
         CHECK.sentence("7.6: changed when the owner alone differs", ChangeTest::ownerAlone);
         CHECK.sentence("7.6: changed when the status alone differs", ChangeTest::statusAlone);
         CHECK.sentence("7.6: changed when the value alone differs", ChangeTest::valueAlone);
         CHECK.sentence("7.6: not changed when the triple is the same", ChangeTest::sameTriple);
         CHECK.sentence("7.6: the results just before it, not older ones", ChangeTest::justBefore);
+        CHECK.sentence("7.6: over several builds in a row, each triple after each other one", ChangeTest::allTriples);
         CHECK.sentence("7.6: the first build is compared with the start results", ChangeTest::firstBuild);
         CHECK.sentence("7.6: a build with nothing changed", ChangeTest::nothingChanged);
         CHECK.sentence("7.6: names that use a changed name", ChangeTest::usersOfChanged);
@@ -22,7 +25,7 @@ public final class ChangeTest {
     }
 
     private static void neverRefused() {
-        NameHashBuilder x = new NameHashBuilder(2, 8, 4);
+        NameHashBuilder x = CHECK.object(2, 8, 4);
         CHECK.dueBuild("empty", x, "");
         CHECK.fill(x, 0, "= = = = = = = =");
         CHECK.fill(x, 1, "( ( ( ( ( ( ( (");
@@ -38,7 +41,7 @@ public final class ChangeTest {
 
     private static void noneChanged() {
         for (int n = 4; n <= 16; n++) {
-            NameHashBuilder x = new NameHashBuilder(8, 8, n);
+            NameHashBuilder x = CHECK.object(8, 8, n);
             CHECK.dueBuild("empty", x, "");
             CHECK.fill(x, 0, "a = 1");
             CHECK.dueBuild("an error", x, "");
@@ -47,7 +50,7 @@ public final class ChangeTest {
 
     private static void allChanged() {
         for (int n = 4; n <= 16; n++) {
-            NameHashBuilder x = new NameHashBuilder(8, 8, n);
+            NameHashBuilder x = CHECK.object(8, 8, n);
             String all = "abcdefghijklmnop".substring(0, n);
             for (int name = 0; name < n; name++) {
                 x.append(name / 2, 2, name);
@@ -86,7 +89,7 @@ public final class ChangeTest {
             x.clearUnit(unit);
         }
         CHECK.dueBuild("cleared", x, "abcd");
-        CHECK.same("cleared", Check.meaning(x), Check.meaning(CHECK.filled()));
+        CHECK.same("cleared", Check.meaning(x), Check.meaning(new NameHashBuilder(4, 32, 8)));
         CHECK.dueBuild("once more", x, "");
     }
 
@@ -102,13 +105,14 @@ public final class ChangeTest {
         CHECK.due("insertToken(1, 3)", x.insertToken(1, 3, 9, 0), true);
         CHECK.due("setToken(1, 2)", x.setToken(1, 2, 1, 6), true);
         x.build();
-        CHECK.same("edited", Check.meaning(x), Check.meaning(CHECK.built("a = b ;", "b = 6 ;")));
+        NameHashBuilder fresh = CHECK.newlyBuilt("a = b ;", "b = 6 ;");
+        CHECK.same("edited", Check.meaning(x), Check.meaning(fresh));
         CHECK.dueName("edited", x, 0, 0, NameHashBuilder.ST_OK, 6);
-        NameHashBuilder lastUnitFirst = new NameHashBuilder(4, 32, 8);
+        NameHashBuilder lastUnitFirst = CHECK.object(4, 32, 8);
         CHECK.fill(lastUnitFirst, 1, "b = 6 ;");
         CHECK.fill(lastUnitFirst, 0, "a = b ;");
         lastUnitFirst.build();
-        CHECK.same("last unit first", Check.results(lastUnitFirst), Check.results(CHECK.built("a = b ;", "b = 6 ;")));
+        CHECK.same("last unit first", Check.results(lastUnitFirst), Check.results(fresh));
     }
 
     /** Whatever was built before, the results are those of a new object with the same tokens. */
@@ -125,7 +129,7 @@ public final class ChangeTest {
             for (int to = 0; to < objects.length; to++) {
                 rebuild(x, objects[from]);
                 rebuild(x, objects[to]);
-                String fresh = Check.meaning(CHECK.built(objects[to]));
+                String fresh = Check.meaning(CHECK.newlyBuilt(objects[to]));
                 CHECK.same("object " + to + " after " + from, Check.meaning(x), fresh);
             }
         }
@@ -136,6 +140,17 @@ public final class ChangeTest {
             CHECK.fill(x, unit, units[unit]);
         }
         x.build();
+    }
+
+    private static void emptiedAsNew() {
+        for (int u = 2; u <= 8; u++) {
+            for (int t = 8; t <= 32; t += 6) {
+                for (int n = 4; n <= 16; n += 3) {
+                    String fresh = Check.state(new NameHashBuilder(u, t, n));
+                    CHECK.same("sizes " + u + ", " + t + ", " + n, Check.state(Worn.object(u, t, n)), fresh);
+                }
+            }
+        }
     }
 
     private static void ownerAlone() {
@@ -194,6 +209,27 @@ public final class ChangeTest {
         CHECK.dueBuild("cleared, again", x, "");
         CHECK.fill(x, 0, "a = 1 ;");
         CHECK.dueBuild("back again", x, "a");
+    }
+
+    /** Units 0 and 1 give name a each owner, status and value; the cycle of b in unit 2 stays. */
+    private static void allTriples() {
+        String[] triples = {"", "a = 0 ;", "a = 5 ;", "a = -5 ;", "a = h ;", "a = a ;", "a = b ;"};
+        NameHashBuilder x = CHECK.built("", "", "b = b ;");
+        for (int from = 0; from < 2 * triples.length; from++) {
+            for (int to = 0; to < 2 * triples.length; to++) {
+                giveTriple(x, triples, from);
+                x.build();
+                giveTriple(x, triples, to);
+                boolean same = from == to || from < 2 && to < 2;
+                CHECK.dueBuild("from " + from + " to " + to, x, same ? "" : "a");
+                CHECK.dueBuild("from " + from + " to " + to + ", again", x, "");
+            }
+        }
+    }
+
+    private static void giveTriple(NameHashBuilder x, String[] triples, int number) {
+        CHECK.fill(x, number % 2, triples[number / 2]);
+        CHECK.fill(x, 1 - number % 2, "");
     }
 
     private static void firstBuild() {

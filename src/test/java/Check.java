@@ -4,13 +4,24 @@ final class Check {
     static final int MAX = Integer.MAX_VALUE;
 
     private String sentence = "";
+    private boolean wornObjects = false;
     private long answers = 0;
     private long wrong = 0;
 
-    /** Runs the test of one sentence of the document; a wrong answer is told with the sentence. */
+    /**
+     * Runs the test of one sentence of the document, once on new objects and once on worn ones; a
+     * wrong answer is told with the sentence.
+     */
     void sentence(String text, Runnable test) {
+        run("[" + text + "] ", test);
+        wornObjects = true;
+        run("[" + text + ", after a long run of calls] ", test);
+        wornObjects = false;
+    }
+
+    private void run(String title, Runnable test) {
         long before = answers;
-        sentence = "[" + text + "] ";
+        sentence = title;
         try {
             test.run();
         } catch (RuntimeException | StackOverflowError thrown) {
@@ -19,6 +30,12 @@ final class Check {
         }
         due("the test looked at an answer", answers > before, true);
         sentence = "";
+    }
+
+    /** The object that the test of a sentence works on. */
+    NameHashBuilder object(int units, int tokensPerUnit, int names) {
+        return wornObjects ? Worn.object(units, tokensPerUnit, names)
+                : new NameHashBuilder(units, tokensPerUnit, names);
     }
 
     void due(String call, long got, long want) {
@@ -111,10 +128,8 @@ final class Check {
 
     /** Four units of 32 tokens and eight names, a to h, with these units filled. */
     NameHashBuilder filled(String... units) {
-        NameHashBuilder x = new NameHashBuilder(4, 32, 8);
-        for (int unit = 0; unit < units.length; unit++) {
-            fill(x, unit, units[unit]);
-        }
+        NameHashBuilder x = object(4, 32, 8);
+        fillAll(x, units);
         return x;
     }
 
@@ -122,6 +137,20 @@ final class Check {
         NameHashBuilder x = filled(units);
         x.build();
         return x;
+    }
+
+    /** As built, and always on a new object. */
+    NameHashBuilder newlyBuilt(String... units) {
+        NameHashBuilder x = new NameHashBuilder(4, 32, 8);
+        fillAll(x, units);
+        x.build();
+        return x;
+    }
+
+    private void fillAll(NameHashBuilder x, String[] units) {
+        for (int unit = 0; unit < units.length; unit++) {
+            fill(x, unit, units[unit]);
+        }
     }
 
     /** Every build result in one text, to see whether any of them moved. */
@@ -176,12 +205,12 @@ final class Check {
         due(when + ": [" + got + "] is as [" + want + "]", got.equals(want), true);
     }
 
-    private static String[] words(String text) {
+    static String[] words(String text) {
         String trimmed = text.trim();
         return trimmed.isEmpty() ? new String[0] : trimmed.split(" +");
     }
 
-    private static int kindOf(String word) {
+    static int kindOf(String word) {
         int sign = "+-*()=;".indexOf(word);
         if (sign >= 0) {
             return NameHashBuilder.K_PLUS + sign;
@@ -189,7 +218,7 @@ final class Check {
         return Character.isLetter(word.charAt(0)) ? NameHashBuilder.K_NAME : NameHashBuilder.K_NUM;
     }
 
-    private static int valueOf(String word) {
+    static int valueOf(String word) {
         switch (kindOf(word)) {
             case NameHashBuilder.K_NUM:
                 return Integer.parseInt(word);

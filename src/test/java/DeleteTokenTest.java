@@ -55,9 +55,9 @@ public final class DeleteTokenTest {
         for (int index = -1; index <= Bench.T; index++) {
             bench.deleteToken(1, index).isRefused();
         }
-        NameHashBuilder fresh = new NameHashBuilder(2, 8, 4);
-        CHECK.due("deleteToken at the start", fresh.deleteToken(0, 0), false);
-        CHECK.dueTokens("deleteToken at the start", fresh, 0, "");
+        NameHashBuilder start = CHECK.object(2, 8, 4);
+        CHECK.due("deleteToken at the start", start.deleteToken(0, 0), false);
+        CHECK.dueTokens("deleteToken at the start", start, 0, "");
     }
 
     private static void tokensMove() {
@@ -122,10 +122,10 @@ public final class DeleteTokenTest {
         Bench bench = new Bench(CHECK, "");
         bench.clearUnit(1).makes("");
         bench.clearUnit(1).makes("");
-        NameHashBuilder fresh = new NameHashBuilder(2, 8, 4);
-        CHECK.due("clearUnit(0) at the start", fresh.clearUnit(0), true);
-        CHECK.due("clearUnit(1) at the start", fresh.clearUnit(1), true);
-        CHECK.dueTokens("clearUnit at the start", fresh, 0, "");
+        NameHashBuilder start = CHECK.object(2, 8, 4);
+        CHECK.due("clearUnit(0) at the start", start.clearUnit(0), true);
+        CHECK.due("clearUnit(1) at the start", start.clearUnit(1), true);
+        CHECK.dueTokens("clearUnit at the start", start, 0, "");
     }
 
     private static void clearsNothingElse() {

@@ -27,6 +27,8 @@ public final class FaceTest {
         check.due("the class is public and final",
                 face.getModifiers() == (Modifier.PUBLIC | Modifier.FINAL), true);
         check.due("nested classes", face.getDeclaredClasses().length, 0);
+        check.due("it extends Object alone", face.getSuperclass() == Object.class, true);
+        check.due("interfaces", face.getInterfaces().length, 0);
         check.same("constants", constants(face).toString(), sorted(CONSTANTS));
         check.same("methods", methods(face, check).toString(), sorted(METHODS));
         Constructor<?>[] constructors = face.getDeclaredConstructors();

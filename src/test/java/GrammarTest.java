@@ -26,7 +26,7 @@ public final class GrammarTest {
     }
 
     private static void due(String text, int error, int defs) {
-        NameHashBuilder x = new NameHashBuilder(2, 32, 16);
+        NameHashBuilder x = CHECK.object(2, 32, 16);
         CHECK.fill(x, 1, text);
         x.build();
         CHECK.dueUnit("[" + text + "]", x, 1, error, defs);
@@ -92,7 +92,7 @@ public final class GrammarTest {
         due("a = " + "( ".repeat(14) + "1 " + ") ".repeat(14) + ";", -1, 1);
         due("a = " + "- ".repeat(28) + "1 ;", -1, 1);
         due("a = 1 ; ".repeat(8), -1, 8);
-        NameHashBuilder least = new NameHashBuilder(2, 8, 4);
+        NameHashBuilder least = CHECK.object(2, 8, 4);
         CHECK.fill(least, 0, "a = 1 ; b = a ;");
         CHECK.dueBuild("T = 8", least, "ab");
         CHECK.dueUnit("T = 8", least, 0, -1, 2);
@@ -193,7 +193,7 @@ public final class GrammarTest {
 
     private static void unendedFullUnits() {
         for (int t = 8; t <= 32; t++) {
-            NameHashBuilder x = new NameHashBuilder(2, t, 4);
+            NameHashBuilder x = CHECK.object(2, t, 4);
             CHECK.fill(x, 0, "a = " + "- ".repeat(t - 2));
             CHECK.fill(x, 1, "a = " + "- ".repeat(t - 3) + "1");
             CHECK.dueBuild("T = " + t, x, "");

@@ -49,9 +49,9 @@ public final class InsertTokenTest {
             text.append(10 + i).append(' ');
             bench.insertToken(1, i, 1, 10 + i).makes(text.toString());
         }
-        NameHashBuilder fresh = new NameHashBuilder(2, 8, 4);
-        CHECK.due("insertToken(0, 0, 1, 5) at the start", fresh.insertToken(0, 0, 1, 5), true);
-        CHECK.dueTokens("insertToken at the start", fresh, 0, "5");
+        NameHashBuilder start = CHECK.object(2, 8, 4);
+        CHECK.due("insertToken(0, 0, 1, 5) at the start", start.insertToken(0, 0, 1, 5), true);
+        CHECK.dueTokens("insertToken at the start", start, 0, "5");
     }
 
     private static void kindRange() {
@@ -146,7 +146,7 @@ public final class InsertTokenTest {
 
     /** All units full: an edit reaches neither the unit before nor the next nor past the last one. */
     private static void greatestSizes() {
-        NameHashBuilder x = new NameHashBuilder(8, 32, 16);
+        NameHashBuilder x = CHECK.object(8, 32, 16);
         String[] texts = new String[8];
         for (int unit = 0; unit < 8; unit++) {
             texts[unit] = (unit + " p ").repeat(16);

@@ -112,7 +112,7 @@ public final class MeaningTest {
     }
 
     private static void allUnitsWrong() {
-        NameHashBuilder x = new NameHashBuilder(8, 32, 16);
+        NameHashBuilder x = CHECK.object(8, 32, 16);
         for (int unit = 0; unit < 8; unit++) {
             CHECK.fill(x, unit, "a = b ; b = 1 ; ;");
         }
@@ -221,7 +221,7 @@ public final class MeaningTest {
 
     /** Each name uses the one that is step further on; without one def the ring is no cycle. */
     private static void ring(int n, int step) {
-        NameHashBuilder x = new NameHashBuilder(8, 8, n);
+        NameHashBuilder x = CHECK.object(8, 8, n);
         int last = n - 1;
         for (int name = 0; name < n; name++) {
             addDef(x, name / 2, name, (name + step) % n);
@@ -336,7 +336,7 @@ public final class MeaningTest {
 
     /** The chain ends in the literal 9, or in a name that uses itself. */
     private static void longChain(boolean upwards, int endKind) {
-        NameHashBuilder x = new NameHashBuilder(8, 8, 16);
+        NameHashBuilder x = CHECK.object(8, 8, 16);
         for (int i = 0; i < 16; i++) {
             int name = upwards ? i : 15 - i;
             int used = i == 0 ? name : upwards ? i - 1 : 16 - i;

@@ -85,9 +85,9 @@ public final class SetTokenTest {
         for (int index = -1; index <= Bench.T; index++) {
             bench.setToken(1, index, 1, 5).isRefused();
         }
-        NameHashBuilder fresh = new NameHashBuilder(2, 8, 4);
-        CHECK.due("setToken at the start", fresh.setToken(0, 0, 1, 5), false);
-        CHECK.dueTokens("setToken at the start", fresh, 0, "");
+        NameHashBuilder start = CHECK.object(2, 8, 4);
+        CHECK.due("setToken at the start", start.setToken(0, 0, 1, 5), false);
+        CHECK.dueTokens("setToken at the start", start, 0, "");
     }
 
     private static void storedAsZero() {

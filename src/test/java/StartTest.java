@@ -86,7 +86,7 @@ public final class StartTest {
     /** The sizes show in what is taken and what is refused. */
     private static void sizes(int units, int tokens, int names, int u, int t, int n) {
         String made = "new (" + units + ", " + tokens + ", " + names + ")";
-        NameHashBuilder x = new NameHashBuilder(units, tokens, names);
+        NameHashBuilder x = CHECK.object(units, tokens, names);
         CHECK.due(made + ": getLength(U-1)", x.getLength(u - 1), 0);
         CHECK.due(made + ": getLength(U)", x.getLength(u), -1);
         CHECK.due(made + ": append to unit U", x.append(u, 1, 0), false);
@@ -111,7 +111,7 @@ public final class StartTest {
 
     private static void startEmpty() {
         for (int u = 2; u <= 8; u++) {
-            NameHashBuilder x = new NameHashBuilder(u, 32, 16);
+            NameHashBuilder x = CHECK.object(u, 32, 16);
             for (int unit = 0; unit < u; unit++) {
                 CHECK.dueTokens("at the start", x, unit, "");
             }
@@ -120,7 +120,7 @@ public final class StartTest {
 
     private static void startUnits() {
         for (int u = 2; u <= 8; u++) {
-            NameHashBuilder x = new NameHashBuilder(u, 8, 16);
+            NameHashBuilder x = CHECK.object(u, 8, 16);
             dueStartUnits("at the start", x, u);
             CHECK.fill(x, u - 1, "a = b ; =");
             CHECK.fill(x, 0, "a = a ;");
@@ -137,7 +137,7 @@ public final class StartTest {
 
     private static void startNames() {
         for (int n = 4; n <= 16; n++) {
-            NameHashBuilder x = new NameHashBuilder(2, 8, n);
+            NameHashBuilder x = CHECK.object(2, 8, n);
             dueStartNames("at the start", x, n);
             CHECK.fill(x, 0, "a = 3 ; d = d ;");
             dueStartNames("edited, not built", x, n);
@@ -152,7 +152,7 @@ public final class StartTest {
     }
 
     private static void startResultsAreThoseOfEmptyUnits() {
-        NameHashBuilder x = new NameHashBuilder(8, 32, 16);
+        NameHashBuilder x = CHECK.object(8, 32, 16);
         String start = Check.state(x);
         CHECK.dueBuild("all units empty", x, "");
         CHECK.same("all units empty, built", Check.state(x), start);

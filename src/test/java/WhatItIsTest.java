@@ -9,7 +9,7 @@ public final class WhatItIsTest {
 
     public static void main(String[] args) {
         CHECK.sentence("What it is: every refused call changes nothing at all, at the start",
-                () -> refusedCallsChangeNothing(new NameHashBuilder(3, 8, 5), new NameHashBuilder(3, 8, 5)));
+                () -> refusedCallsChangeNothing(CHECK.object(3, 8, 5), new NameHashBuilder(3, 8, 5)));
         CHECK.sentence("What it is: every refused call changes nothing at all, after a build",
                 () -> refusedCallsChangeNothing(worked(true), worked(true)));
         CHECK.sentence("What it is: every refused call changes nothing at all, after edits that no build saw",
@@ -29,7 +29,7 @@ public final class WhatItIsTest {
 
     /** Three units of eight tokens, five names; unit 0 is full, and unit 2 has an error. */
     private static NameHashBuilder worked(boolean lastEditBuilt) {
-        NameHashBuilder x = new NameHashBuilder(3, 8, 5);
+        NameHashBuilder x = CHECK.object(3, 8, 5);
         CHECK.fill(x, 0, "a = 1 ; b = c ;");
         CHECK.fill(x, 1, "c = a ;");
         CHECK.fill(x, 2, "d = =");
@@ -120,7 +120,7 @@ public final class WhatItIsTest {
     }
 
     private static void editsChangeNoStartResult() {
-        NameHashBuilder x = new NameHashBuilder(4, 32, 8);
+        NameHashBuilder x = CHECK.object(4, 32, 8);
         String start = Check.results(x);
         CHECK.fill(x, 0, "a = 1 ; b = a ; c = c ;");
         CHECK.same("append", Check.results(x), start);
@@ -154,7 +154,7 @@ public final class WhatItIsTest {
 
     private static void atMostT() {
         for (int t = 8; t <= 32; t++) {
-            NameHashBuilder x = new NameHashBuilder(2, t, 4);
+            NameHashBuilder x = CHECK.object(2, t, 4);
             for (int i = 0; i < t; i++) {
                 boolean taken = i % 2 == 0 ? x.append(0, 1, i) : x.insertToken(0, 0, 1, i);
                 CHECK.due("token no. " + i + " of " + t, taken, true);
@@ -176,7 +176,7 @@ public final class WhatItIsTest {
 
     private static void nameNumbers() {
         for (int n = 4; n <= 16; n++) {
-            NameHashBuilder x = new NameHashBuilder(2, 32, n);
+            NameHashBuilder x = CHECK.object(2, 32, n);
             for (int name = 0; name < n; name++) {
                 CHECK.due("append of name " + name + " of " + n, x.append(0, 2, name), true);
                 CHECK.dueToken("name of " + n, x, 0, name, 2, name);
@@ -205,7 +205,7 @@ public final class WhatItIsTest {
     private static void givenValueIsIgnored() {
         int[][] tokens = {{2, 0}, {8, MAX}, {4, 9}, {6, 1}, {1, 2}, {3, -1}, {1, 3}, {7, 2}, {5, MIN}, {1, 4},
             {4, 77}, {1, 1}, {9, 16}};
-        NameHashBuilder x = new NameHashBuilder(2, 32, 8);
+        NameHashBuilder x = CHECK.object(2, 32, 8);
         for (int[] token : tokens) {
             CHECK.due("append(0, " + token[0] + ", " + token[1] + ")", x.append(0, token[0], token[1]), true);
         }
